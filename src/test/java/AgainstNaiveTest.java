@@ -15,20 +15,25 @@ public final class AgainstNaiveTest {
     private final WritHouse house = new WritHouse();
     private final Naive naive = new Naive();
     private final List<String> calls = new ArrayList<>();
+    // each run does some things more often than others, so that it comes to their limits
+    private final int[] favourites = new int[3];
     private boolean wrong;
 
     private AgainstNaiveTest(long seed) {
         random = new Random(seed);
+        for (int i = 0; i < favourites.length; i++) favourites[i] = random.nextInt(22);
     }
 
+    /** With a number: so many runs, and behind them which answers there were. */
     public static void main(String[] args) throws Exception {
+        int runs = args.length > 0 ? Integer.parseInt(args[0]) : RUNS;
         for (Method m : WritHouse.class.getDeclaredMethods()) {
             if (!java.lang.reflect.Modifier.isPublic(m.getModifiers())) continue;
             OURS.put(m.getName(), m);
             NAIVE.put(m.getName(), Naive.class.getDeclaredMethod(m.getName(), m.getParameterTypes()));
         }
         int wrongRuns = 0;
-        for (int run = 0; run < RUNS && wrongRuns < 3; run++) {
+        for (int run = 0; run < runs && wrongRuns < 3; run++) {
             AgainstNaiveTest one = new AgainstNaiveTest(run);
             one.go();
             if (!one.wrong) continue;
@@ -145,7 +150,7 @@ public final class AgainstNaiveTest {
     }
 
     private void step() throws Exception {
-        switch (random.nextInt(22)) {
+        switch (chance(60) ? favourites[random.nextInt(favourites.length)] : random.nextInt(22)) {
             case 0 -> stepDays();
             case 1 -> stepPersons();
             case 2 -> stepForms();
@@ -351,7 +356,6 @@ public final class AgainstNaiveTest {
     private void stepHost() throws Exception {
         int s = chance(97) ? from(0, 3) : from(-1, 4);
         switch (random.nextInt(10)) {
-            // a size below 0 of a missing sheet is left out: NOTES.md tells why
             case 0 -> call("sheet", s, chance(50) ? 2 : from(0, 5), chance(95) ? from(0, 20) : from(-1, 41));
             case 1 -> call("sheet", s, chance(20) ? -1 : 2, from(0, 41));
             case 2 -> {
