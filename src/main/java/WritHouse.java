@@ -4,7 +4,7 @@ import java.util.Arrays;
 public final class WritHouse {
     public static final int BAD = -1, FULL = -2, NONE = -3, STATE = -4;
 
-    private static final int NO_PLACE = -9;
+    private static final int NO_SUCH = -9;
     private static final int NOTHING = -11, OUTSIDE = -12, OTHER_KIND = -13, SIZE_BELOW_0 = -14;
     private static final int PARTED_BY_0 = -15;
     private static final int FAULTS = -100;
@@ -81,7 +81,7 @@ public final class WritHouse {
         if (!isDay(day)) return BAD;
         if (!reigns.mayBegin(day)) return STATE;
         if (reigns.count >= KINGS) return FULL;
-        return reigns.begin(day, movable);
+        return reigns.crown(day, movable);
     }
 
     public int feast(int year, int date) {
@@ -170,7 +170,7 @@ public final class WritHouse {
         int fault = reader.parse();
         if (fault >= 0) return FAULTS - fault;
         if (now.forms.count >= VERSIONS) return FULL;
-        return now.forms.begin(form, now.today, reader);
+        return now.forms.putInForce(form, now.today, reader);
     }
 
     public int strike(int form) {
@@ -232,12 +232,12 @@ public final class WritHouse {
     }
 
     public int row(int i, int what) {
-        if (!within(i, rowCount) || what < 0 || what > 1) return NO_PLACE;
+        if (!within(i, rowCount) || what < 0 || what > 1) return NO_SUCH;
         return what == 0 ? rowVersion[i] : rowBar[i];
     }
 
     public int alterRow(int i, int what, int v) {
-        if (!within(i, rowCount) || what < 0 || what > 1) return NO_PLACE;
+        if (!within(i, rowCount) || what < 0 || what > 1) return NO_SUCH;
         int was = what == 0 ? rowVersion[i] : rowBar[i];
         if (what == 0) rowVersion[i] = v;
         else rowBar[i] = v;
@@ -282,7 +282,7 @@ public final class WritHouse {
     }
 
     public int slip(int letter, int i, int x) {
-        if (!isWord(letter, i) || !within(x, NUMBERS)) return NO_PLACE;
+        if (!isWord(letter, i) || !within(x, NUMBERS)) return NO_SUCH;
         Letters letters = now.letters;
         if (letters.sealCount[letter] > 0) return STATE;
         int was = letters.words[letter][i];
@@ -291,7 +291,7 @@ public final class WritHouse {
     }
 
     public int word(int letter, int i) {
-        return isWord(letter, i) ? now.letters.words[letter][i] : NO_PLACE;
+        return isWord(letter, i) ? now.letters.words[letter][i] : NO_SUCH;
     }
 
     private boolean isWord(int letter, int i) {
@@ -618,12 +618,18 @@ public final class WritHouse {
         final int[] entryLetter = new int[ENTRIES];
         final int[] cracked = new int[SEALS];
         final Reigns reigns = new Reigns();
-        final People people = new People();
-        final Forms forms = new Forms();
-        final Letters letters = new Letters(forms, people);
+        final People people;
+        final Forms forms;
+        final Letters letters;
         final Week week = new Week();
 
         House() {
+            // what a letter is turns on its version and on the persons that it names
+            Forms itsForms = new Forms();
+            People itsPeople = new People();
+            forms = itsForms;
+            people = itsPeople;
+            letters = new Letters(itsForms, itsPeople);
             Arrays.fill(cracked, -1);
         }
 
@@ -826,7 +832,7 @@ public final class WritHouse {
             return count == 0 || day > begin[count - 1];
         }
 
-        int begin(int day, boolean movable) {
+        int crown(int day, boolean movable) {
             begin[count] = day;
             isMovable[count] = movable;
             return count++;
@@ -1009,7 +1015,7 @@ public final class WritHouse {
         }
 
         /** The text that was read becomes the version of a form, in force from today on. */
-        int begin(int ofForm, int today, Reader read) {
+        int putInForce(int ofForm, int today, Reader read) {
             int old = versionOn(ofForm, today);
             if (old >= 0) until[old] = today;
             int v = count;

@@ -7,7 +7,7 @@ import java.util.TreeMap;
 
 /** Runs of calls made by chance (of fixed seeds), each answered by WritHouse and by Naive. */
 public final class AgainstNaiveTest {
-    private static final int RUNS = 500, CALLS = 512;
+    private static final int RUNS = 1000, CALLS = 512;
     private static final Map<String, Method> OURS = new TreeMap<>(), NAIVE = new TreeMap<>();
     private static final Map<String, Map<String, Integer>> SEEN = new TreeMap<>();
 

@@ -110,6 +110,21 @@ public final class FormsTest {
         DUE.is(bare.version(0, 11), -1);
         DUE.is(bare.version(0, 30), -1);
 
+        // what an earlier text told is nothing to the next one
+        WritHouse x2 = new WritHouse();
+        DUE.is(Due.read(x2, 0, text), 0);
+        DUE.is(Due.read(x2, 1, "fee 1;"), -106);
+        DUE.is(Due.read(x2, 1, "say 7;"), 1);
+        for (int what = 1; what < lacking.length; what++) {
+            if (what != 7) DUE.is(x2.version(1, what), lacking[what]);
+        }
+        // nor what was read ahead of a fault
+        DUE.is(Due.read(x2, 2, "kind writ;fee 9;due 8;roll 1;seals 1;wants fact 1;say 1 2 3 4;x"), -162);
+        DUE.is(Due.read(x2, 2, "say 7;"), 2);
+        for (int what = 1; what < lacking.length; what++) {
+            if (what != 7) DUE.is(x2.version(2, what), lacking[what]);
+        }
+
         String[] kinds = {"letter", "close", "patent", "charter", "", "writ", "warrant"};
         for (int k = 0; k < kinds.length; k++) {
             if (k == 4) continue;
@@ -133,6 +148,8 @@ public final class FormsTest {
         DUE.is(fault(";"), 0);
         DUE.is(fault("1"), 0);
         DUE.is(fault("sayx 1;"), 0);
+        DUE.is(fault("sayz 1;"), 0);
+        DUE.is(fault("asay 1;"), 0);
         DUE.is(fault("sa 1;"), 0);
         DUE.is(fault("say ;"), 4);
         DUE.is(fault("say writ;"), 4);
@@ -166,6 +183,8 @@ public final class FormsTest {
         DUE.is(fault("say 1 0001;"), 6);
         DUE.is(fault("say 1;fee 0999;"), 10);
         DUE.is(fault("say 1;due 1000;"), 10);
+        DUE.is(fault("say 1;due 0;fee 999;"), -1);
+        DUE.is(fault("say 1;due 999;fee 0;roll 0;"), -1);
         DUE.is(fault("say 1;roll 002;"), -1);
         DUE.is(fault("say 1;seals 003;"), -1);
         DUE.is(fault("say 1;seals 1 001;"), 14);

@@ -301,6 +301,13 @@ public final class HostTest {
             x.shelf(0, 0, 2);
             isAct(x, 3, 6, parts ? due[i][1] + 3 : -15, 31, 13);
         }
+        // what was parted by 0 is nothing to the next act
+        WritHouse four = house("say 1 2 3 4;");
+        four.letter(0, 0, 0);
+        four.shelf(0, 0, 0);
+        isAct(four, 3, 8, -15, 13);
+        isAct(four, 0, 8, 12, 10);
+        isAct(four, 1, -9, -15, 11, 10);
         WritHouse x = house("say 1 2 3;", "kind patent;say 1 2 3;");
         x.letter(0, 0, 0);
         x.shelf(0, 0, 0);

@@ -212,6 +212,16 @@ public final class LettersTest {
         DUE.is(x.mend(4, 3), -4);
         DUE.is(x.letterOf(2, 10), 1);
         DUE.is(x.letterOf(2, 11), 4);
+        // one that stands for letter 0, too, stands for no other
+        x.letter(0, 0, 0);
+        DUE.is(x.mend(1, 0), -4);
+        WritHouse y = house("say 5;");
+        for (int l = 0; l < 3; l++) y.letter(0, 0, 0);
+        for (int l = 0; l < 3; l++) y.slip(l, 0, 6);
+        DUE.is(y.mend(2, 0), 1);
+        DUE.is(y.mend(2, 1), -4);
+        DUE.is(y.mend(1, 0), -4);
+        DUE.is(y.letterOf(2, 10), 0);
         // it stays void
         DUE.is(x.isVoid(0), 1);
         DUE.is(x.many(14), 4);
@@ -277,6 +287,7 @@ public final class LettersTest {
 
     private static void tooManyWords() {
         WritHouse x = house("kind charter;say 0 1 2 3 4 5 6 7 8 9 10 11;");
+        DUE.is(Due.read(x, 1, "kind charter;say 1;"), 1);
         for (int l = 0; l < 4; l++) x.letter(0, 0, 0);
         DUE.is(x.inspect(1, 0), 24);
         DUE.is(x.inspect(2, 1), 36);
@@ -289,6 +300,9 @@ public final class LettersTest {
         DUE.is(x.word(3, 35), 11);
         DUE.is(x.word(3, 36), -9);
         DUE.is(x.word(3, 24), 0);
+        x.letter(0, 1, 0);
+        DUE.is(x.inspect(4, 3), -2);
+        DUE.is(x.inspect(4, 1), 25);
     }
 
     private static void hangs() {

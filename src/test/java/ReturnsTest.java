@@ -150,6 +150,11 @@ public final class ReturnsTest {
         DUE.is(x.returned(0, 179), 0);
         DUE.is(x.returned(0, 180), 3);
         DUE.is(x.returned(0, 3599), 3);
+        WritHouse last = withWrit();
+        DUE.is(last.back(0, 179), 1);
+        DUE.is(last.returned(0, 178), 0);
+        DUE.is(last.returned(0, 179), 1);
+        DUE.is(last.returned(0, 180), 1);
         x.back(0, 100);
         DUE.is(x.returned(0, 99), 0);
         DUE.is(x.returned(0, 100), 1);
