@@ -509,8 +509,10 @@ public final class WritHouse {
 
     public int sheet(int sheet, int sort, int n) {
         if (!within(sheet, SHEETS) || sort < -1 || sort >= SHEET_SORTS || n > SHEET_SIZE) return BAD;
-        if (n < 0) return SIZE_BELOW_0;
-        sheets.lay(sheet, sort, n);
+        // a missing sheet is no row, so n is not its size
+        int size = sort < 0 ? 0 : n;
+        if (size < 0) return SIZE_BELOW_0;
+        sheets.lay(sheet, sort, size);
         return 1;
     }
 

@@ -357,7 +357,7 @@ public final class AgainstNaiveTest {
         int s = chance(97) ? from(0, 3) : from(-1, 4);
         switch (random.nextInt(10)) {
             case 0 -> call("sheet", s, chance(50) ? 2 : from(0, 5), chance(95) ? from(0, 20) : from(-1, 41));
-            case 1 -> call("sheet", s, chance(20) ? -1 : 2, from(0, 41));
+            case 1 -> call("sheet", s, chance(20) ? -1 : 2, from(-1, 41));
             case 2 -> {
                 for (int i = 0; i < 6; i++) call("put", s, from(-1, 8), chance(60) ? from(-1, 9) : random.nextInt());
             }

@@ -35,7 +35,7 @@ public final class HostTest {
         DUE.is(x.sheet(0, 5, 0), -1);
         DUE.is(x.sheet(0, 0, 41), -1);
         DUE.is(x.sheet(0, -1, 41), -1);
-        DUE.is(x.sheet(0, -1, -1), -14);
+        DUE.is(x.sheet(0, -1, MAX), -1);
         DUE.is(x.sheet(0, 0, -1), -14);
         DUE.is(x.sheet(0, 4, MIN), -14);
         DUE.is(x.sheet(5, 0, -1), -1);
@@ -53,8 +53,22 @@ public final class HostTest {
         DUE.is(x.item(0, 2, 39), 0);
         DUE.is(x.sheet(0, 2, 0), 1);
         DUE.is(x.item(0, 2, 0), -12);
-        DUE.is(x.sheet(0, -1, 5), 1);
-        DUE.is(x.item(0, 2, 0), -11);
+        for (int n : new int[] {0, 5, 40, -1, MIN}) {
+            // missing, it has no size, so none that could be below 0
+            x.sheet(0, 2, 3);
+            DUE.is(x.sheet(0, -1, n), 1);
+            DUE.is(x.item(0, 2, 0), -11);
+            DUE.is(x.put(0, 0, 1), -11);
+            DUE.is(x.comes(0, 0), -11);
+            DUE.is(x.shelf(0, 1, 0), 1);
+            DUE.is(x.taken(0, 12), -11);
+        }
+        // refused, it is missing no more than it was
+        DUE.is(x.sheet(0, 2, 3), 1);
+        DUE.is(x.sheet(0, -1, 41), -1);
+        DUE.is(x.item(0, 2, 2), 0);
+        DUE.is(x.sheet(4, -1, -1), -1);
+        DUE.is(x.sheet(0, -2, -1), -1);
     }
 
     private static void narrowed() {

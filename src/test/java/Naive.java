@@ -910,9 +910,13 @@ final class Naive {
 
     public int sheet(int sheet, int sort, int n) {
         if (!in(sheet, 0, 3) || !in(sort, -1, 4) || n > 40) return BAD;
+        if (sort < 0) {
+            sheets[sheet] = null;
+            return 1;
+        }
         try {
             Object[] made = {new byte[n], new short[n], new int[n], new long[n], new boolean[n]};
-            sheets[sheet] = sort < 0 ? null : made[sort];
+            sheets[sheet] = made[sort];
             return 1;
         } catch (NegativeArraySizeException e) {
             return -14;
