@@ -40,6 +40,14 @@ final class Due {
         }
     }
 
+    /** Days go on up to this one; no more calls than that takes, even if none goes on. */
+    static WritHouse goTo(WritHouse x, int day) {
+        for (int today = 0; today < day; today += 400) {
+            if (x.many(0) < day) x.days(Math.min(400, day - x.many(0)));
+        }
+        return x;
+    }
+
     static int read(WritHouse x, int form, String text) {
         feed(x, text);
         return x.read(form);

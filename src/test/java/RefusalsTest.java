@@ -13,7 +13,7 @@ import java.util.Set;
 
 /** Calls with any arguments: none throws, and one that is refused changes nothing. */
 public final class RefusalsTest {
-    private static final int RUNS = 100, CALLS = 600;
+    private static final int RUNS = 150, CALLS = 400;
     private static final int[] EDGES = {Integer.MIN_VALUE, Integer.MAX_VALUE, Integer.MAX_VALUE - 1, -100, -2, 3599, 3600,
         4095, 4096, 400, 401, 359, 360, 999, 1000, 39, 40, 41, 100};
     private static final String[] TEXTS = {"say 1 land;kind charter;roll 1;", "kind writ;say 2 person;seals 1;due 9;fee 3;",
