@@ -186,7 +186,8 @@ final class EdgesOfDays {
         s.promise(1, "all else is empty.");
         WritHouse y = new WritHouse();
         for (int what = 3; what <= 14; what++) s.is(y.many(what), 0);
-        for (int roll = 0; roll < 3; roll++) s.got(y.roll(roll, 0), y.roll(roll, 1), y.roll(roll, 2), y.roll(roll, 3), y.roll(roll, 4)).are(0, -3, 0, 0, -3);
+        for (int roll = 0; roll < 3; roll++) s.got(y.roll(roll, 0), y.roll(roll, 1), y.roll(roll, 2), y.roll(roll, 3),
+            y.roll(roll, 4)).are(0, -3, 0, 0, -3);
         for (int term = 0; term < 40; term++) s.all(0, y.hamper(term, 0), y.hamper(term, 1), y.hamper(term, 2));
         for (int sheet = 0; sheet < 4; sheet++) s.is(y.item(sheet, 2, 0), -11);
         for (int shelf = 0; shelf < 4; shelf++) s.is(y.taken(shelf, 0), -11);

@@ -79,7 +79,8 @@ final class EdgesOfForms {
         s.got(fault("say 1;say 1;"), fault("kind writ;say 1;kind writ;"), fault("wants fact 1;say 1;wants fact 1;")).are(6, 16, 19);
         String all = "say 1;fee 1;roll 1;due 1;seals 1;kind writ;wants fact 1;";
         for (String part : all.split(";")) s.is(fault(all + part + ";"), all.length());
-        s.got(fault("seals 1;say 1;seals 2;"), fault("fee 1;say 1;fee 1;"), fault("roll 1;say 1;roll 1;"), fault("due 1;say 1;due 1;")).are(14, 12, 13, 12);
+        s.got(fault("seals 1;say 1;seals 2;"), fault("fee 1;say 1;fee 1;"), fault("roll 1;say 1;roll 1;"),
+            fault("due 1;say 1;due 1;")).are(14, 12, 13, 12);
         s.got(fault("fee 1;"), fault("kind writ;wants fact 1;seals 1;fee 1;roll 1;due 1;")).are(6, 50);
         s.got(fault("say 1"), fault("say 1 fee 1;"), fault("say 1;;"), fault(";say 1;"), fault("1;say 1;")).are(5, 6, 6, 0, 0);
 
@@ -149,7 +150,8 @@ final class EdgesOfForms {
         s.got(width("not most 1(0 1)"), width("most 1(0)"), width("most 2(0 1 2)")).are(1024, 2048, 2048);
         s.got(faultOfCond("fact"), faultOfCond("fact fact 1"), faultOfCond("1")).are(4, 5, 0);
         s.got(faultOfCond("()"), faultOfCond("(fact 1"), faultOfCond("(fact 1 fact 2)"), faultOfCond("fact 1)")).are(1, 7, 8, 6);
-        s.got(faultOfCond("most (1)"), faultOfCond("most 1 1"), faultOfCond("most 1()"), faultOfCond("most 1(1"), faultOfCond("most 1(fact 1)")).are(5, 7, 7, 8, 7);
+        s.got(faultOfCond("most (1)"), faultOfCond("most 1 1"), faultOfCond("most 1()"), faultOfCond("most 1(1"),
+            faultOfCond("most 1(fact 1)")).are(5, 7, 7, 8, 7);
         s.is(faultOfCond("fact 1 not fact 2"), 7);
 
         s.terms(3, "F: a FACT, 0 to 11;");
@@ -161,9 +163,11 @@ final class EdgesOfForms {
         s.terms(3, "most N: N (0 to 12) or more of those told (one told twice counts twice; 12 at most).");
         s.got(width("most 0(0)"), width("most 1(0)"), width("most 2(0)"), width("most 12(0)")).are(4096, 2048, 0, 0);
         s.is(faultOfCond("most 13(0)"), 5);
-        s.got(width("most 2(0 0)"), width("most 3(0 0)"), width("most 3(0 0 1)"), width("most 2(0 0 1)"), width("most 1(0 0 1)")).are(2048, 0, 1024, 2048, 3072);
+        s.got(width("most 2(0 0)"), width("most 3(0 0)"), width("most 3(0 0 1)"), width("most 2(0 0 1)"), width("most 1(0 0 1)"))
+            .are(2048, 0, 1024, 2048, 3072);
         String all = "0 1 2 3 4 5 6 7 8 9 10 11";
-        s.got(width("most 12(" + all + ")"), width("most 11(" + all + ")"), width("most 1(" + all + ")"), width("most 0(" + all + ")")).are(1, 13, 4095, 4096);
+        s.got(width("most 12(" + all + ")"), width("most 11(" + all + ")"), width("most 1(" + all + ")"),
+            width("most 0(" + all + ")")).are(1, 13, 4095, 4096);
         s.is(width("most 12(5 5 5 5 5 5 5 5 5 5 5 5)"), 2048);
         s.is(faultOfCond("most 12(5 5 5 5 5 5 5 5 5 5 5 5 5)"), 32);
 
@@ -195,7 +199,8 @@ final class EdgesOfForms {
         s.is(told("say 12;", 2), 1);
         s.is(told("say 1 2;", 2), 2);
         s.got(fault("s ay 1;"), fault("say per son;"), fault("say 1;fee 1 0;")).are(0, 4, 12);
-        s.got(fault("say\t1;"), fault("say\n1;"), fault("say\u00a01;"), fault("say\u00001;"), fault("say\u001f1;"), fault("say!1;")).are(3, 3, 3, 3, 3, 3);
+        s.got(fault("say\t1;"), fault("say\n1;"), fault("say\u00a01;"), fault("say\u00001;"), fault("say\u001f1;"),
+            fault("say!1;")).are(3, 3, 3, 3, 3, 3);
     }
 
     private void termsOfFaults() {
@@ -215,7 +220,8 @@ final class EdgesOfForms {
         s.terms(3, "the end (how many bytes there are), if more must come, or all is read and say lacks.");
         s.got(fault(""), fault(" "), fault("     ")).are(0, 1, 5);
         s.got(fault("say"), fault("say "), fault("say 1"), fault("say 1  "), fault("say 1;fee"), fault("say 1;fee 1")).are(3, 4, 5, 7, 9, 11);
-        s.got(faultOfEnd("most"), faultOfEnd("most 1"), faultOfEnd("most 1("), faultOfEnd("most 1(1"), faultOfEnd("(fact 1"), faultOfEnd("not")).are(0, 0, 0, 0, 0, 0);
+        s.got(faultOfEnd("most"), faultOfEnd("most 1"), faultOfEnd("most 1("), faultOfEnd("most 1(1"), faultOfEnd("(fact 1"),
+            faultOfEnd("not")).are(0, 0, 0, 0, 0, 0);
         s.got(faultOfEnd("((((("), faultOfEnd("most 1(0 0 0 0 0 0 0 0 0 0 0 0"), faultOfEnd("(((((fact 1)))) ")).are(0, 0, 0);
         s.got(fault("say 1 2 3 4 5 6 7 8 9 1 2 3"), fault("say 1;seals 0 1 2 3"), fault("say 1;kind")).are(27, 19, 10);
         s.got(fault("fee 1;"), fault("fee 1; "), fault("kind writ;wants fact 1;  ")).are(6, 7, 25);

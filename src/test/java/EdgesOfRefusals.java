@@ -63,8 +63,10 @@ final class EdgesOfRefusals {
         s.all(-1, x.letter(2, 0, 0), x.letter(0, 9, 0), x.letter(0, 0, 9), x.fill(1, 0, 5), x.fill(1, 1, 100), x.letterOf(0, 13), x.isVoid(9));
         s.all(-4, x.letter(0, 2, 0), x.letter(1, 0, 0), x.fill(0, 1, 6), x.slip(0, 0, 6), x.mend(2, 0), x.mend(0, 1), x.inspect(2, 1));
         s.all(-1, x.mend(1, 1), x.mend(1, 9), x.inspect(1, 1), x.inspect(1, 2), x.differ(1, 2), x.seal(0, 21), x.seal(9, 0), x.why(0, 3600));
-        s.all(-4, x.seal(0, 11), x.seal(1, 20), x.seal(2, 20), x.witness(2, 0, 6), x.back(0, 20), x.back(2, 9), x.returned(1, 20), x.returns(0), x.dies(0));
-        s.all(-1, x.crack(4, 0), x.crack(2, 3600), x.hamper(40, 0), x.enter(3, 0), x.enter(0, 9), x.roll(0, 5), x.witness(0, 2, 6), x.witness(0, 0, 7));
+        s.all(-4, x.seal(0, 11), x.seal(1, 20), x.seal(2, 20), x.witness(2, 0, 6), x.back(0, 20), x.back(2, 9), x.returned(1, 20),
+            x.returns(0), x.dies(0));
+        s.all(-1, x.crack(4, 0), x.crack(2, 3600), x.hamper(40, 0), x.enter(3, 0), x.enter(0, 9), x.roll(0, 5),
+            x.witness(0, 2, 6), x.witness(0, 0, 7));
         s.all(-1, x.place(0, 10), x.place(9, 0), x.could(0, 4), x.claim(8, 0, 0, 0, 1, 0), x.join(0, 0, 4), x.back(2, 21), x.returned(2, 3600));
         s.all(-1, x.returns(9), x.dies(9), x.task(0, 0), x.task(1, 31), x.plan(4, 0), x.plan(1, 12), x.sheet(0, 5, 1), x.sheet(0, 2, 41));
         s.all(-1, x.put(4, 0, 5), x.item(0, 5, 0), x.comes(4, 0), x.shelf(0, 3, 0), x.shelf(0, 0, 9), x.shelf(0, 1, 4), x.taken(0, 7), x.many(15));
@@ -105,8 +107,10 @@ final class EdgesOfRefusals {
         for (int l = 0; l < 4; l++) {
             for (int what = 0; what <= 12; what++) s.is(x.letterOf(l, what), y.letterOf(l, what));
         }
-        for (int roll = 0; roll < 3; roll++) s.got(x.roll(roll, 0), x.roll(roll, 1), x.roll(roll, 22)).are(y.roll(roll, 0), y.roll(roll, 1), y.roll(roll, 22));
-        for (int place = 0; place < 3; place++) s.got(x.of(0, 0, 10 + place), x.of(1, 31, 10 + place)).are(y.of(0, 0, 10 + place), y.of(1, 31, 10 + place));
+        for (int roll = 0; roll < 3; roll++) s.got(x.roll(roll, 0), x.roll(roll, 1), x.roll(roll, 22)).are(y.roll(roll, 0),
+            y.roll(roll, 1), y.roll(roll, 22));
+        for (int place = 0; place < 3; place++) s.got(x.of(0, 0, 10 + place), x.of(1, 31, 10 + place)).are(y.of(0, 0, 10 + place),
+            y.of(1, 31, 10 + place));
         s.got(x.plan(2, 0), x.plan(2, 16), x.could(0, 3), x.year(5, 0)).are(y.plan(2, 0), y.plan(2, 16), y.could(0, 3), 3);
         // the last bytes still find their place
         s.got(x.many(11), x.feed(0, 6), x.read(0), x.many(5), x.version(15, 8)).are(394, 400, -100 - 392, 16, -3);
@@ -137,7 +141,8 @@ final class EdgesOfRefusals {
         s.got(x.letter(16, 0, 0), x.letter(0, 0, 0), x.letter(0, 15, 0)).are(-1, -4, -2);
         s.got(x.inspect(3, 3), x.inspect(2, 1), x.inspect(3, 2)).are(-1, -4, -2);
         s.got(x.witness(0, 16, 6), x.witness(0, 0, 6)).are(-1, -2);
-        s.got(x.person(3600), x.stay(16, 0, 0, 0), x.hold(0, 6, 0, 0), x.petition(0, 4096), x.enter(3, 0), x.task(0, 0), x.feed(0, 9)).are(-1, -1, -1, -1, -1, -1, -1);
+        s.got(x.person(3600), x.stay(16, 0, 0, 0), x.hold(0, 6, 0, 0), x.petition(0, 4096), x.enter(3, 0), x.task(0, 0),
+            x.feed(0, 9)).are(-1, -1, -1, -1, -1, -1, -1);
         // of a host: no such thing, another kind, nothing, outside
         x.sheet(1, 1, 1);
         s.got(x.item(4, 2, 9), x.item(1, 2, 9), x.item(0, 2, 9), x.item(1, 1, 9)).are(-1, -13, -11, -12);
@@ -158,6 +163,7 @@ final class EdgesOfRefusals {
         y.letter(0, 2, 0);
         y.shelf(0, 0, 3);
         y.sheet(0, 0, 1);
-        s.got(y.item(1, 0, 0), y.taken(1, 0), y.item(0, 0, 1), y.item(0, 1, 0), y.taken(0, 1), y.sheet(0, 0, -1), y.act(0, 3, 5)).are(-11, -11, -12, -13, -13, -14, -15);
+        s.got(y.item(1, 0, 0), y.taken(1, 0), y.item(0, 0, 1), y.item(0, 1, 0), y.taken(0, 1), y.sheet(0, 0, -1), y.act(0, 3, 5))
+            .are(-11, -11, -12, -13, -13, -14, -15);
     }
 }

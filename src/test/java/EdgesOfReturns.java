@@ -268,7 +268,8 @@ final class EdgesOfReturns {
         Due.goTo(x, 100);
         x.back(1, 95);
         s.got(x.returned(0, 0), x.returned(0, 3599)).are(1, 1);
-        s.got(x.returned(1, 0), x.returned(1, 89), x.returned(1, 90), x.returned(1, 94), x.returned(1, 95), x.returned(1, 3599)).are(0, 0, 3, 3, 2, 2);
+        s.got(x.returned(1, 0), x.returned(1, 89), x.returned(1, 90), x.returned(1, 94), x.returned(1, 95), x.returned(1, 3599))
+            .are(0, 0, 3, 3, 2, 2);
         s.got(x.returned(2, 0), x.returned(2, 89), x.returned(2, 90), x.returned(2, 3599)).are(0, 0, 3, 3);
 
         s.promise(47, "BAD: there is no such LETTER, DAY;");
@@ -312,7 +313,8 @@ final class EdgesOfReturns {
         s.all(-1, x.dies(-1), x.dies(24), x.dies(MIN), x.dies(MAX), new WritHouse().dies(0));
 
         s.promise(49, "STATE: it is of another kind.");
-        s.all(-4, x.dies(1), x.dies(23), withLetter("kind close;say 1;").dies(0), withLetter("say 1;").dies(0), withLetter("kind charter;say 1;").dies(0));
+        s.all(-4, x.dies(1), x.dies(23), withLetter("kind close;say 1;").dies(0), withLetter("say 1;").dies(0),
+            withLetter("kind charter;say 1;").dies(0));
     }
 
     private void task() {

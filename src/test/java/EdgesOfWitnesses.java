@@ -181,7 +181,8 @@ final class EdgesOfWitnesses {
         x.king(0, false);
         x.days(5);
         x.letter(1, 0, 0);
-        s.got(x.claim(0, 5, 1, 0, 1, 3), x.claim(1, 5, 1, 0, 1, 3), x.claim(0, 4, 1, 0, 1, 3), x.claim(0, 6, 1, 0, 1, 3), x.claim(0, 5, 0, 0, 1, 3)).are(1, 0, 0, 0, 0);
+        s.got(x.claim(0, 5, 1, 0, 1, 3), x.claim(1, 5, 1, 0, 1, 3), x.claim(0, 4, 1, 0, 1, 3), x.claim(0, 6, 1, 0, 1, 3),
+            x.claim(0, 5, 0, 0, 1, 3)).are(1, 0, 0, 0, 0);
         // of another version of the form, read anew on that day
         Due.read(x, 0, "say 3;");
         s.is(x.claim(0, 5, 1, 0, 1, 3), 1);
