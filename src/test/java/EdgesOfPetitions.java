@@ -120,10 +120,14 @@ final class EdgesOfPetitions {
         s.is(x.prove(1, 1), 2);
         s.got(x.row(0, 0), x.row(1, 0)).are(3, 6);
         s.is(x.prove(1, 0), 4);
-        // as many as there may be
+        // as many as there may be: of eight forms, each read twice
         WritHouse full = withPetitions(withForms("fact 0", "fact 0", "fact 0", "fact 0", "fact 0", "fact 0", "fact 0", "fact 0"), 0);
         s.is(full.prove(0, 0), 8);
         s.got(full.row(7, 0), full.row(7, 1), full.row(8, 0)).are(7, 0, -9);
+        full.days(1);
+        for (int form = 0; form < 8; form++) Due.read(full, form, "say 1;wants fact 11 and fact 10;");
+        s.got(full.many(5), full.prove(0, 1), full.row(0, 0), full.row(7, 0), full.row(7, 1), full.row(8, 0)).are(16, 8, 8, 15, -1, -9);
+        s.got(full.judge(0, 1), full.judge(0, 0), full.fit(0, 1), full.lack(0, 1), full.lack(0, 0)).are(0, 1, -3, 3072, 1);
     }
 
     private void termsOfTheReader() {
