@@ -107,6 +107,7 @@ public final class FaceTest {
         DUE.is(code.contains("->") || code.contains("::") ? 1 : 0, 0);
         for (int i = 0; i < text.length(); i++) if (text.charAt(i) > 126) DUE.is(i, -1);
         methodsAreShort(text.split("\n"));
+        onlyConstructorsMake(code.split("\n"));
     }
 
     private static void methodsAreShort(String[] lines) {
@@ -120,5 +121,21 @@ public final class FaceTest {
             begin = -1;
         }
         DUE.is(methods > 62 ? 1 : 0, 1);
+    }
+
+    /** All calls of a run live in one room, so objects and rows are made with the object, and none by a call. */
+    private static void onlyConstructorsMake(String[] lines) {
+        boolean isInConstructor = false;
+        int made = 0;
+        for (String line : lines) {
+            if (line.matches(" {4}public WritHouse\\(.*\\{| {8}[A-Z]\\w*\\(.*\\) \\{")) isInConstructor = true;
+            if (line.matches(" {4}\\}| {8}\\}")) isInConstructor = false;
+            if (!line.contains("new ")) continue;
+            made++;
+            boolean isField = line.matches(" {8}(private )?final [\\w\\[\\]]+ \\w+ = new .*;");
+            if (!isField && !isInConstructor) System.out.println("made by a call: " + line.trim());
+            DUE.is(isField || isInConstructor ? 1 : 0, 1);
+        }
+        DUE.is(made > 20 ? 1 : 0, 1);
     }
 }
